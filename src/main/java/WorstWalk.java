@@ -23,7 +23,7 @@ public final class WorstWalk {
     private final int[] ahead = new int[BLOCKS];
     /** The live blocks in an order in which each edge leads onward unless it is a back edge. */
     private final int[] blockAt = new int[BLOCKS];
-    private int placed;
+    private final int[] placeOf = new int[BLOCKS];
     /** What a visit of each block adds to the weight of a walk. */
     private final int[] weights = new int[BLOCKS];
 
@@ -213,16 +213,15 @@ public final class WorstWalk {
         return found;
     }
 
-    /** Fills blockAt, and answers whether every live block found its place. */
+    /** Fills blockAt and placeOf, and answers whether every live block found its place. */
     private boolean orderBlocks() {
         findEdgesAhead();
         int waiting = live();
-        placed = 0;
         for (int place = 0; place < BLOCKS; place++) {
             int b = firstBlockOf(waiting);
             if (b != NONE) {
                 blockAt[place] = b;
-                placed = place + 1;
+                placeOf[b] = place;
                 waiting &= ~(1 << b);
             }
         }
@@ -281,9 +280,8 @@ public final class WorstWalk {
 
     private void stepOnFrom(int state) {
         int ends = edges[blockOf(state)];
-        for (int place = 0; place < placed; place++) {
-            int b = blockAt[place];
-            int next = has(ends, b) ? stateAfterVisit(state, place) : NONE;
+        for (int b = 0; b < BLOCKS; b++) {
+            int next = has(ends, b) ? stateAfterVisit(state, b) : NONE;
             if (next != NONE) {
                 noteWeights(next, heaviest[state] + weights[b], lightest[state] + weights[b]);
             }
@@ -291,10 +289,10 @@ public final class WorstWalk {
     }
 
     /** NONE when the visit's count would be above the bound. */
-    private int stateAfterVisit(int state, int place) {
-        int shift = shiftOf(place);
+    private int stateAfterVisit(int state, int b) {
+        int shift = shiftOf(placeOf[b]);
         int count = (state >> shift & COUNT_MASK) + 1;
-        if (count > bounds[blockAt[place]]) {
+        if (count > bounds[b]) {
             return NONE;
         }
         return ((state >> shift) + 1) << shift;
