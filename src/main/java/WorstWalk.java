@@ -83,13 +83,15 @@ public final class WorstWalk {
     }
 
     public int dominators(int b) {
-        if (!isLive(b)) {
+        if (!isBlock(b)) {
             return 0;
         }
+        int all = reachedWithout(0);
         int found = 0;
         for (int h = 0; h < BLOCKS; h++) {
-            int reached = reachedWithout(1 << h);
-            if (!has(reached, b)) {
+            // Taken from the live blocks, so that a block that is not live has no dominator.
+            int cutOff = all & ~reachedWithout(1 << h);
+            if (has(cutOff, b)) {
                 found |= 1 << h;
             }
         }

@@ -1,4 +1,4 @@
-/** What the tests share: comparing answers, making programs, and reading all that a program tells. */
+/** What the tests share: comparing answers, making programs, reading all that a program tells. */
 abstract class Checks {
     /** Too small, too large, and numbers that a shift or a narrower type would take for a block. */
     static final int[] NOT_BLOCKS = {

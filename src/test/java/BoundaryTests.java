@@ -56,7 +56,7 @@ public final class BoundaryTests extends Checks {
         endWith("the boundaries hold");
     }
 
-    /** A program in which the cost and the bound of every block but the last show in the answers. */
+    /** Its answers show every cost, and every bound but that of the innermost block. */
     private static WorstWalk telling(String edges) {
         WorstWalk x = program(edges);
         costs(x, 1, 2, 3, 5, 7, 11);
@@ -169,7 +169,7 @@ public final class BoundaryTests extends Checks {
         due("3 has none now", x.loop(2), 12);
     }
 
-    /** "The program is REGULAR when there is no ring of edges that are not back edges.": no ring. */
+    /** "REGULAR when there is no ring of edges that are not back edges": there is none. */
     private static void ringsThatAreRegular() {
         due("no edges", new WorstWalk().regular(), true);
         due("the least ring", program("01 10").regular(), true);
@@ -180,7 +180,7 @@ public final class BoundaryTests extends Checks {
         due("a ring that is not live", program("12 21").regular(), true);
     }
 
-    /** "The program is REGULAR when there is no ring of edges that are not back edges.": a ring. */
+    /** "REGULAR when there is no ring of edges that are not back edges": there is one. */
     private static void ringsThatAreNotRegular() {
         due("all edges", withAllEdges().regular(), false);
         due("the least ring with two ways in", program("04 05 45 54").regular(), false);
@@ -335,7 +335,7 @@ public final class BoundaryTests extends Checks {
         same("new, reversed", everything(program(NEST_REVERSED)), everything(turned));
     }
 
-    /** "Gives block b a cost and answers true": the least and the most, each in place of another. */
+    /** "Gives block b a cost and answers true": the most, and the least in its place. */
     private static void costTakes() {
         WorstWalk x = program("01 12 23 34 45");
         for (int b = 0; b < 6; b++) {
@@ -365,7 +365,7 @@ public final class BoundaryTests extends Checks {
         unchanged("after the refused costs", first, second);
     }
 
-    /** "Gives block b a bound and answers true": the least and the most, each in place of another. */
+    /** "Gives block b a bound and answers true": the most, and the least in its place. */
     private static void boundTakes() {
         for (int b = 0; b < 6; b++) {
             WorstWalk x = program(b == 5 ? NEST_REVERSED : NEST);
@@ -558,7 +558,7 @@ public final class BoundaryTests extends Checks {
         }
     }
 
-    /** "The greatest cost that block b could have (0 .. 50) ... so that no walk would cost more". */
+    /** "... cost that block b could have (0 .. 50), ... so that no walk would cost more". */
     private static void costForLimits() {
         WorstWalk x = program("01 12 21 23");
         costs(x, 1, 10, 20, 5, 50, 50);

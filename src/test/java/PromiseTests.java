@@ -1,4 +1,4 @@
-/** Each promise of the document on ordinary inputs; BoundaryTests has its edges and wrong inputs. */
+/** Each promise of the document on ordinary inputs; its edges are in BoundaryTests. */
 public final class PromiseTests extends Checks {
     public static void main(String[] args) {
         newObject();
